@@ -7,7 +7,9 @@ import java.nio.file.Files;
 import java.nio.file.Path;
 import java.util.ArrayList;
 import java.util.List;
+import java.util.Map;
 import java.util.Set;
+import java.util.TreeMap;
 import java.util.TreeSet;
 import java.util.regex.Matcher;
 import java.util.regex.Pattern;
@@ -30,6 +32,8 @@ public final class LanguageTest {
         String plain = withoutTexts(Files.readString(SOURCE));
         checkWords(plain);
         checkMethodLengths(plain);
+        checkLoops(plain);
+        checkDepth(plain);
         checkFace();
         checkClasses();
         System.out.println(wrong == 0 ? "language: kept to" : "language: " + wrong + " breaches");
@@ -52,13 +56,15 @@ public final class LanguageTest {
 
     private static void checkWords(String plain) {
         String[] banned = {"throw", "throws", "try", "catch", "finally", "synchronized", "assert", "package",
-            "Thread", "Object", "Runtime", "Random", "volatile", "transient", "native", "yield", "var"};
+            "Thread", "Object", "Runtime", "Random", "volatile", "transient", "native", "yield", "var", "equals",
+            "hashCode", "toString", "goto", "protected", "double", "float"};
         for (String word : banned) {
             must(!Pattern.compile("\\b" + word + "\\b").matcher(plain).find(), "the word " + word);
         }
         must(!plain.contains("->"), "a lambda or an arrow");
         must(!plain.contains("::"), "a method reference");
         must(!plain.contains("@"), "an annotation");
+        must(!plain.contains("\""), "a text, that could be joined by +");
         must(!plain.contains("Exact("), "an Exact function");
         must(!Pattern.compile("static\\s*\\{").matcher(plain).find(), "a static block");
         must(!Pattern.compile("while\\s*\\(\\s*true").matcher(plain).find(), "a loop without an end");
@@ -88,6 +94,63 @@ public final class LanguageTest {
         }
     }
 
+    /** Rule 9: a loop's head has a counter against a bound, or goes over an array. */
+    private static void checkLoops(String plain) {
+        Matcher heads = Pattern.compile("\\b(for|while)\\s*\\((.*)\\)\\s*\\{").matcher(plain);
+        while (heads.find()) {
+            String head = heads.group(2);
+            must(head.matches(".*\\w+ (<|<=|>|>=) .+") || head.contains(" : "), "a loop without a bound: " + head);
+        }
+        must(!Pattern.compile("\\bdo\\b").matcher(plain).find(), "a do, whose end is not looked at here");
+    }
+
+    /** Rule 11, by names: from each method, how deep the calls go that are made in its lines (a name once on a way). */
+    private static void checkDepth(String plain) {
+        Map<String, Set<String>> called = new TreeMap<>();
+        Pattern begin = Pattern.compile("(?m)^ {4}(?: {4})?(?:\\w+(?:\\[\\])* )*(\\w+)\\([^)]*\\) \\{$");
+        Matcher methods = begin.matcher(plain);
+        List<Integer> starts = new ArrayList<>();
+        List<String> names = new ArrayList<>();
+        while (methods.find()) {
+            starts.add(methods.end());
+            names.add(methods.group(1));
+        }
+        must(names.containsAll(List.of("LivedAgain", "rests", "findRests", "personAt", "Gambler")), "methods are found");
+        for (int i = 0; i < names.size(); i++) {
+            int end = plain.indexOf("\n" + " ".repeat(indentAt(plain, starts.get(i))) + "}", starts.get(i));
+            Matcher calls = Pattern.compile("(\\w+)\\(").matcher(plain.substring(starts.get(i), end));
+            Set<String> to = called.computeIfAbsent(names.get(i), name -> new TreeSet<>());
+            while (calls.find()) {
+                to.add(calls.group(1));
+            }
+        }
+        for (String name : called.keySet()) {
+            int depth = depthFrom(name, called, new TreeSet<>());
+            must(depth <= 8, "calls go " + depth + " deep from " + name);
+        }
+    }
+
+    private static int indentAt(String plain, int at) {
+        int line = plain.lastIndexOf('\n', at - 1) + 1;
+        int indent = 0;
+        while (plain.charAt(line + indent) == ' ') {
+            indent++;
+        }
+        return indent;
+    }
+
+    private static int depthFrom(String name, Map<String, Set<String>> called, Set<String> open) {
+        int most = 0;
+        open.add(name);
+        for (String next : called.get(name)) {
+            if (called.containsKey(next) && !open.contains(next)) {
+                most = Math.max(most, depthFrom(next, called, open));
+            }
+        }
+        open.remove(name);
+        return most + 1;
+    }
+
     private static void checkFace() {
         Class<?> face = LivedAgain.class;
         must(Modifier.isPublic(face.getModifiers()) && Modifier.isFinal(face.getModifiers()), "public and final");
@@ -115,6 +178,18 @@ public final class LanguageTest {
         must(made.length == 1 && made[0].getParameterCount() == 0, "one constructor");
     }
 
+    /** Rule 3: numbers and truths, arrays of them up to two dimensions, own classes and arrays of them of one. */
+    private static boolean isAllowed(Class<?> type, List<Class<?>> own) {
+        if (type.isPrimitive() || own.contains(type)) {
+            return true;
+        }
+        Class<?> part = type.getComponentType();
+        if (part == null) {
+            return false;
+        }
+        return part.isPrimitive() || own.contains(part) || part.isArray() && part.getComponentType().isPrimitive();
+    }
+
     private static void checkClasses() {
         Set<String> publicNames = new TreeSet<>();
         for (String signature : FACE) {
@@ -133,6 +208,8 @@ public final class LanguageTest {
                 boolean isStatic = Modifier.isStatic(f.getModifiers());
                 fields += isStatic ? 0 : 1;
                 must(!isStatic || Modifier.isFinal(f.getModifiers()), f + " is static, not final");
+                must(!isStatic || f.getType() == int.class || f.getType() == long.class, f + " is no constant of numbers");
+                must(isAllowed(f.getType(), all), f + " has a type that is not listed");
             }
             must(fields <= 20, c + " has over twenty fields");
             for (Method m : c.getDeclaredMethods()) {

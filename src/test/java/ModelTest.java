@@ -14,6 +14,10 @@ import java.util.Random;
 public final class ModelTest {
     private static final int NONE = -1000000, BAD = -1000001, STATE = -1000002, FULL = -1000003;
     private static final int NULL = 1, PLACE = 2, KIND = 3, SIZE = 4, STORE = 5;
+    /** So many calls an object is used for. */
+    private static final int LAST = 512;
+
+    private static int calls = 0;
     private static int wrong = 0;
 
     public static void main(String[] args) {
@@ -28,32 +32,72 @@ public final class ModelTest {
 
     // ---- the driver
 
+    /** Every other run is full of ACTS, so that more than are kept come, one behind another. */
     private static void oneRun(Random random, int run) {
         LivedAgain program = new LivedAgain();
         Model model = new Model();
-        int calls = 0;
-        while (calls < 460) {
-            if (random.nextInt(calls < 30 ? 6 : 60) == 0) {
+        boolean acting = run % 2 == 1;
+        calls = 0;
+        while (calls < LAST) {
+            if (random.nextInt(calls < 30 ? 6 : acting ? 400 : 60) == 0) {
                 String text = anyText(random);
                 for (int i = 0; i < text.length(); i++) {
                     int letter = text.charAt(i);
                     due(run, "feed(" + letter + ")", program.feed(letter), model.feed(letter));
-                    calls++;
                 }
                 due(run, "village() of " + text, program.village(), model.village());
-                calls++;
+            }
+            if (acting && random.nextInt(8) != 0) {
+                oneAct(random, run, program, model);
+                continue;
             }
             if (random.nextInt(12) == 0) {
-                calls += layRow(random, run, program, model);
+                layRow(random, run, program, model);
             }
             oneCall(random, run, program, model);
-            calls++;
             due(run, "status()", program.status(), model.status);
-            calls++;
         }
     }
 
-    private static int layRow(Random random, int run, LivedAgain program, Model model) {
+    private static void oneAct(Random random, int run, LivedAgain program, Model model) {
+        int p = random.nextInt(3);
+        int q = random.nextInt(3);
+        boolean undoing = random.nextInt(40) == 0;
+        for (int i = 0; undoing && i < 30 && !model.acts.isEmpty(); i++) {
+            due(run, "undo()", program.undo(), model.undo());
+            dueSeen(random, run, program, model);
+        }
+        switch (random.nextInt(9)) {
+            case 0: due(run, "again(" + p + ")", program.again(p), model.again(p)); break;
+            case 1: due(run, "will(" + p + ", " + q + ")", program.will(p, q), model.will(p, q)); break;
+            case 2: due(run, "undo()", program.undo(), model.undo()); break;
+            case 3: case 4: dueSeen(random, run, program, model); break;
+            default: {
+                if (model.now != null && model.now.evening) {
+                    due(run, "stand()", program.stand(), model.stand());
+                } else {
+                    int seed = 1 + random.nextInt(999999);
+                    due(run, "live(" + seed + ")", program.live(seed), model.live(seed));
+                }
+                break;
+            }
+        }
+    }
+
+    private static void dueSeen(Random random, int run, LivedAgain program, Model model) {
+        int what = 2 + random.nextInt(5);
+        int p = random.nextInt(3);
+        int of = 3 + random.nextInt(5);
+        int date = random.nextInt(100);
+        due(run, "count(" + what + ")", program.count(what), model.count(what));
+        if (random.nextBoolean()) {
+            due(run, "person(" + p + ", " + of + ")", program.person(p, of), model.person(p, of));
+        } else {
+            due(run, "lives(" + date + ")", program.lives(date), model.lives(date));
+        }
+    }
+
+    private static void layRow(Random random, int run, LivedAgain program, Model model) {
         int row = random.nextInt(4);
         int lane = random.nextInt(3);
         int n = random.nextInt(6);
@@ -62,7 +106,6 @@ public final class ModelTest {
             int v = random.nextInt(random.nextInt(4) == 0 ? 5 : 3);
             due(run, "set", program.set(row, i, v), model.set(row, i, v));
         }
-        return n + 1;
     }
 
     private static String anyText(Random random) {
@@ -234,8 +277,10 @@ public final class ModelTest {
         }
     }
 
+    /** Behind the last call answers are free. */
     private static void due(int run, String call, long got, long want) {
-        if (got != want) {
+        calls++;
+        if (got != want && calls <= LAST) {
             wrong++;
             System.out.println("run " + run + ": " + call + " answered " + got + ", the model " + want);
         }
